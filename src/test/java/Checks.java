@@ -56,18 +56,6 @@ final class Checks {
         }
     }
 
-    /** Whether number i of a SHEET of some ints is v, by huts of another object that stand in no one's way. */
-    static int cellOf(CoalIsLent x, int s, int sort, int i) {
-        // no question tells a cell as it is, but judge() tells whether a hut's HEAT is like it
-        x.sheet(3, sort, 1);
-        x.copy(s, i, 3, 0, 1);
-        for (int heat = 0; heat <= 9999; heat++) {
-            x.put(0, 0, heat);
-            if (x.judge(3, 0) == -1) return heat;
-        }
-        return -1;
-    }
-
     /** All that the face tells of an object, but its SHEETS. */
     static String all(CoalIsLent x) {
         StringBuilder b = new StringBuilder();

@@ -2,7 +2,7 @@ import java.util.Random;
 
 /** Runs of calls by chance (always the same ones), each answered by the class and by the Model. */
 final class ModelTest {
-    private static final int RUNS = 1500, CALLS = 400;
+    private static final int RUNS = 800, CALLS = 400;
     private static final int[] ODD = {-1, 0, 1, 2, 3, 4, 5, 6, 7, 9, 10, 11, 12, 15, 16, 20, 21, 39, 40, 41, 59, 60, 99,
         100, 101, 199, 255, 256, 999, 1000, 9999, 10000, 99999, 100000, 999999, 1000000, Integer.MAX_VALUE,
         Integer.MIN_VALUE, Integer.MAX_VALUE - 1, -100, -10, -2};
@@ -24,6 +24,7 @@ final class ModelTest {
     private void play(int run) {
         if (lots.nextInt(8) != 0) startHuts();
         for (int i = 0; i < CALLS; i++) {
+            if (lots.nextInt(40) == 0) judgeFilm();
             int call = chosen();
             draw(call);
             Checks.due("run " + run + ", call " + i + ": " + NAMES[call] + "(" + a[0] + ", " + a[1] + ", " + a[2]
@@ -36,6 +37,23 @@ final class ModelTest {
         for (int i = 0; i < many; i++) {
             int kindMore = lots.nextInt(60), heatWood = 100 * heat() + lots.nextInt(lots.nextBoolean() ? 5 : 100);
             Checks.due("hut", x.hut(kindMore, heatWood), m.hut(kindMore, heatWood));
+        }
+    }
+
+    /** A film, told as it will be, or with one number otherwise; all that judges by it is asked. */
+    private void judgeFilm() {
+        int s = lots.nextInt(4), h = oneHut(), n = lots.nextInt(8), i = lots.nextInt(8), v = heat();
+        Checks.due("film", x.film(s, h, n), m.film(s, h, n));
+        if (lots.nextBoolean()) Checks.due("cell", x.cell(s, i, v), m.cell(s, i, v));
+        int other = oneHut();
+        Checks.due("judge", x.judge(s, h), m.judge(s, h));
+        Checks.due("judge", x.judge(s, other), m.judge(s, other));
+        Checks.due("whose", x.whose(s), m.whose(s));
+        Checks.due("laws", x.laws(s, h), m.laws(s, h));
+        for (int sort = 0; sort < 3; sort++) {
+            Checks.due("kinds", x.kinds(s, h, sort), m.kinds(s, h, sort));
+            int what = lots.nextInt(2);
+            Checks.due("states", x.states(s, h, sort, what), m.states(s, h, sort, what));
         }
     }
 
@@ -112,7 +130,7 @@ final class ModelTest {
             case "cell": set(few(4), few(lots.nextBoolean() ? 6 : 40), lots.nextInt(3) == 0 ? lots.nextInt() : heat());
                 break;
             case "copy": set(few(4), few(10), few(4), few(10), few(10)); break;
-            case "hutsBy": set(few(4), few(3), few(10), few(7)); break;
+            case "hutsBy": drawHutsBy(); break;
             case "taken": set(few(12), few(7)); break;
             default: break;
         }
@@ -125,6 +143,13 @@ final class ModelTest {
 
     private int coal() {
         return lots.nextInt(4) == 0 ? heat() : 1 + lots.nextInt(60);
+    }
+
+    /** By a SHEET of that sort, mostly. */
+    private void drawHutsBy() {
+        int s = few(4);
+        boolean known = s >= 0 && s < 4 && m.sorts[s] >= 0 && lots.nextInt(4) != 0;
+        set(s, known ? m.sorts[s] : few(3), few(10), few(7));
     }
 
     private void drawFeed() {
