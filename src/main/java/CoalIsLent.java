@@ -953,22 +953,16 @@ public final class CoalIsLent {
             for (int left = loans; left > 0; left--) {
                 if (due[k] > night) {
                     k++;
-                } else {
-                    failed |= endLoan(k);
+                    continue;
                 }
+                if (canRepay(k)) {
+                    payBack(k);
+                } else {
+                    cold[to[k]] = COLD_BY_FAILING;
+                    failed |= 1 << to[k];
+                }
+                drop(k);
             }
-            return failed;
-        }
-
-        private int endLoan(int k) {
-            int failed = 0;
-            if (canRepay(k)) {
-                payBack(k);
-            } else {
-                cold[to[k]] = COLD_BY_FAILING;
-                failed = 1 << to[k];
-            }
-            drop(k);
             return failed;
         }
 
@@ -1003,17 +997,17 @@ public final class CoalIsLent {
     private static final class Code {
         static final int NAMES = 6;
         static final int HEAT_NAME = 0, WOOD_NAME = 1, NIGHT_NAME = 2, COAL_NAME = 3, OWED_NAME = 4, MORE_NAME = 5;
-        /** Code ofName(i) brings the value of name i. */
         private static final int FIRST_NAME = -1;
         static final int MINUS = -11, NOT = -12;
         static final int ADD = -21, SUBTRACT = -22, TIMES = -23, LESS = -24, LIKE = -25, AND = -26, OR = -27;
 
+        /** The code of a name by its number, and its number by the code. */
         static int ofName(int name) {
             return FIRST_NAME - name;
         }
 
         static boolean isName(int code) {
-            return isFromTo(FIRST_NAME - code, 0, NAMES - 1);
+            return code <= FIRST_NAME && code > FIRST_NAME - NAMES;
         }
 
         static boolean isOfOne(int code) {
@@ -1021,7 +1015,14 @@ public final class CoalIsLent {
         }
 
         static int ofOne(int code, int a) {
-            return code == MINUS ? -a : truth(a == 0);
+            if (code == MINUS) {
+                return -a;
+            }
+            return a == 0 ? 1 : 0;
+        }
+
+        static boolean isOfTwo(int code) {
+            return code <= ADD && code >= OR;
         }
 
         static int ofTwo(int code, int a, int b) {
@@ -1029,15 +1030,11 @@ public final class CoalIsLent {
                 case ADD: return a + b;
                 case SUBTRACT: return a - b;
                 case TIMES: return a * b;
-                case LESS: return truth(a < b);
-                case LIKE: return truth(a == b);
-                case AND: return truth(a != 0 && b != 0);
-                default: return truth(a != 0 || b != 0);
+                case LESS: return a < b ? 1 : 0;
+                case LIKE: return a == b ? 1 : 0;
+                case AND: return a != 0 && b != 0 ? 1 : 0;
+                default: return a != 0 || b != 0 ? 1 : 0;
             }
-        }
-
-        private static int truth(boolean is) {
-            return is ? 1 : 0;
         }
     }
 
@@ -1046,7 +1043,6 @@ public final class CoalIsLent {
         private final int[] code = new int[MOST_TEXTS * MOST_BYTES];
         private final int[] ends = new int[MOST_TEXTS * PARTS];
         private final int[] stack = new int[MOST_BYTES];
-        private int top;
         int known;
 
         /** Keeps what was read last: its number. */
@@ -1061,42 +1057,27 @@ public final class CoalIsLent {
         }
 
         int valueOf(int t, int part, int[] names) {
-            int start = part == 0 ? 0 : ends[t * PARTS + part - 1];
-            int end = ends[t * PARTS + part];
-            top = 0;
+            int start = t * MOST_BYTES + (part == 0 ? 0 : ends[t * PARTS + part - 1]);
+            int end = t * MOST_BYTES + ends[t * PARTS + part];
+            int top = 0;
             for (int i = start; i < end; i++) {
-                step(code[t * MOST_BYTES + i], names);
+                int c = code[i];
+                int v = c;
+                if (Code.isOfTwo(c) && top >= 2) {
+                    top -= 2;
+                    v = Code.ofTwo(c, stack[top], stack[top + 1]);
+                } else if (Code.isOfOne(c) && top >= 1) {
+                    top -= 1;
+                    v = Code.ofOne(c, stack[top]);
+                } else if (Code.isName(c)) {
+                    v = names[Code.ofName(c)];
+                }
+                if (top < stack.length) {
+                    stack[top] = v;
+                    top++;
+                }
             }
-            return pop();
-        }
-
-        private void step(int c, int[] names) {
-            if (c >= 0) {
-                push(c);
-            } else if (Code.isName(c)) {
-                push(names[Code.ofName(c)]);
-            } else if (Code.isOfOne(c)) {
-                push(Code.ofOne(c, pop()));
-            } else {
-                int b = pop();
-                int a = pop();
-                push(Code.ofTwo(c, a, b));
-            }
-        }
-
-        private void push(int v) {
-            if (top < stack.length) {
-                stack[top] = v;
-                top++;
-            }
-        }
-
-        private int pop() {
-            if (top <= 0) {
-                return 0;
-            }
-            top--;
-            return stack[top];
+            return top > 0 ? stack[0] : 0;
         }
     }
 
@@ -1260,7 +1241,9 @@ public final class CoalIsLent {
             if (start >= size) {
                 token = END;
             } else if (isLetter(b)) {
-                readWord();
+                place = endOfWord();
+                number = nameRead();
+                token = number == NONE ? keyRead() : NAME;
             } else if (isDigit(b)) {
                 readNumber();
             } else {
@@ -1269,15 +1252,12 @@ public final class CoalIsLent {
             }
         }
 
-        private void readWord() {
+        private int endOfWord() {
+            int end = start;
             for (int i = start; i < size && isLetter(byteAt(i)); i++) {
-                place = i + 1;
+                end = i + 1;
             }
-            token = keyRead();
-            if (token == WRONG) {
-                number = nameRead();
-                token = number == NONE ? WRONG : NAME;
-            }
+            return end;
         }
 
         private void readNumber() {

@@ -67,6 +67,12 @@ final class BestTest {
         Checks.same("needs()", before, x);
         x.put(1, 0, 0);
         Checks.due("never enough", x.needs(1, 4), -1);
+        // one that FAILS early FAILS, though a later LOAN is paid
+        x.lend(1, 130);
+        x.lend(10, 109);
+        Checks.due("never enough", x.needs(1, 20), -1);
+        Checks.due("one FAILS", x.mercy(20, 0), 0);
+        Checks.due("without it none does", x.mercy(20, 1), 0);
         // all that it has: 99 pieces tell
         CoalIsLent y = Checks.withHuts(0, 10000, 0, 0);
         Checks.underLaw(y, "0", "0", "wood = 99");
@@ -87,6 +93,8 @@ final class BestTest {
         Checks.due("how many", x.mercy(2, 1), 1);
         Checks.due("none FAILS yet", x.mercy(1, 0), -1);
         Checks.due("none FAILS yet", x.mercy(1, 1), 0);
+        Checks.due("no NIGHT", x.mercy(0, 0), -1);
+        Checks.due("no NIGHT", x.mercy(0, 1), 0);
         Checks.due("n -1", x.mercy(-1, 0), -2);
         Checks.due("n 41", x.mercy(41, 0), -2);
         Checks.due("what -1", x.mercy(1, -1), -2);
@@ -146,5 +154,19 @@ final class BestTest {
         x.lend(1, 4002);
         Checks.due("who owes", x.worst(3, 0), 1);
         Checks.due("and can't pay", x.worst(3, 1), 10);
+        // with a HEAT of 1 it could pay
+        CoalIsLent y = Checks.withHuts(0, 5000, 0, 0);
+        Checks.underLaw(y, "0", "0", "50");
+        y.lend(1, 101);
+        y.put(0, 0, 0);
+        y.put(1, 0, 50);
+        Checks.due("HEAT of all others", y.worst(2, 0), 1);
+        Checks.due("HEAT of all others", y.worst(2, 1), 0);
+        // HUT 0 has 10 again then, HUT 1 has 20
+        CoalIsLent z = Checks.withHuts(0, 20000, 0, 2000);
+        Checks.underLaw(z, "0", "0", "0");
+        z.lend(1, 1001);
+        Checks.due("who is hot", z.worst(2, 0), 0);
+        Checks.due("what is its own then does not count", z.worst(2, 1), 20);
     }
 }

@@ -130,6 +130,9 @@ final class LawTest {
         faultAt("growsx 1;", 0);
         faultAt("grows heats;", 6);
         faultAt("grows x;", 6);
+        faultAt("grows xeat;", 6);
+        faultAt("grows hea;", 6);
+        faultAt("xrows 1;", 0);
         faultAt("grows 12345;", 6);
         faultAt("grows 00001;", 6);
         faultAt("grows 1 12345;", 8);
@@ -211,6 +214,7 @@ final class LawTest {
         Checks.due("force(-1)", x.force(-1), -2);
         Checks.due("THE LAW is 1 yet", x.count(5), 1);
         Checks.due("force(1) again", x.force(1), 1);
+        Checks.due("force(0)", x.force(0), 1);
     }
 
     private static void value(String e, int due) {
@@ -252,6 +256,9 @@ final class LawTest {
         value("0 or 0 or 7", 1);
         value("5 and 7", 1);
         value("5 and - 7", 1);
+        value("1 and 7", 1);
+        value("7 and 1", 1);
+        value("0 and 1", 0);
         value("5 and 0", 0);
         value("1 or 1 and 0", 1);
         value("(1 or 1) and 0", 0);

@@ -161,6 +161,16 @@ final class LoanTest {
         y.lend(20, 709);
         Checks.due("payments of a ring", y.settle(0), 0);
         Checks.due("no HUTS", new CoalIsLent().settle(0), 0);
+        y.lend(1, 109);
+        Checks.due("a payment of 1", y.settle(0), 1);
+        Checks.due("a payment of 1", y.settle(1), 1);
+        // nets -9, 5, 5, -1: 5 to the first of them, 4 to the second, then 1
+        CoalIsLent z = Checks.withHuts(0, 10000, 0, 10000, 0, 10000, 0, 10000);
+        z.lend(10, 509);
+        z.lend(20, 409);
+        z.lend(23, 109);
+        Checks.due("payments", z.settle(0), 3);
+        Checks.due("together", z.settle(1), 10);
     }
 
     private static void source() {

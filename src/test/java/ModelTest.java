@@ -2,7 +2,7 @@ import java.util.Random;
 
 /** Runs of calls by chance (always the same ones), each answered by the class and by the Model. */
 final class ModelTest {
-    private static final int RUNS = 800, CALLS = 400;
+    private static final int RUNS = 400, CALLS = 400;
     private static final int[] ODD = {-1, 0, 1, 2, 3, 4, 5, 6, 7, 9, 10, 11, 12, 15, 16, 20, 21, 39, 40, 41, 59, 60, 99,
         100, 101, 199, 255, 256, 999, 1000, 9999, 10000, 99999, 100000, 999999, 1000000, Integer.MAX_VALUE,
         Integer.MIN_VALUE, Integer.MAX_VALUE - 1, -100, -10, -2};

@@ -6,6 +6,8 @@ final class NightTest {
     public static void main(String[] args) {
         kindsCoolAndBurn();
         kindsGrow();
+        growsAbove50();
+        allThatThereCanBe();
         growsAsAllIsThen();
         burnsAheadCoolsBehind();
         repaidInOrder();
@@ -65,6 +67,34 @@ final class NightTest {
             x.night();
             Checks.due("KIND " + i + " GROWS further", x.loan(0, 2), second[i]);
         }
+    }
+
+    private static void growsAbove50() {
+        for (int kindMore : new int[] {19, 39}) {
+            CoalIsLent x = Checks.withHuts(0, 20000, kindMore, 0);
+            x.lend(1, 5009);
+            x.lend(1, 5109);
+            x.night();
+            Checks.due("a COAL of 50", x.loan(0, 2), 51);
+            Checks.due("a COAL of 51", x.loan(1, 2), 61);
+        }
+    }
+
+    private static void allThatThereCanBe() {
+        CoalIsLent x = Checks.withHuts(0, 10000, 0, 10000, 0, 10000, 0, 10000, 0, 10000, 0, 10000);
+        for (int k = 0; k < 10; k++) x.lend(k % 2 == 0 ? 45 : 50, 101 + k / 5);
+        Checks.due("night", x.night(), 0);
+        Checks.due("ten LOANS", x.count(1), 10);
+        for (int k = 0; k < 10; k++) Checks.due("COAL " + k, x.loan(k, 2), 2);
+        Checks.due("night", x.night(), 0);
+        Checks.due("five LOANS", x.count(1), 5);
+        Checks.due("forgive the last", x.forgive(4), 3);
+        x.put(5, 0, 0);
+        x.put(0, 0, 0);
+        Checks.due("night", x.night(), 1 + 32);
+        Checks.due("no LOANS", x.count(1), 0);
+        Checks.due("HEAT of the first", x.told(0, 0), 0);
+        Checks.due("HEAT of one between", x.told(2, 0), 94);
     }
 
     private static void growsAsAllIsThen() {
@@ -186,6 +216,10 @@ final class NightTest {
             Checks.due("run(1, " + what + ")", x.run(1, what), -2);
         }
         Checks.same("run()", before, x);
+        // one FAILS in the third NIGHT, the other in the fourth
+        x.hut(0, 0);
+        x.lend(2, 3003);
+        Checks.due("both", x.run(4, 1), 2 + 4);
     }
 
     private static void lasts() {

@@ -39,6 +39,7 @@ final class SnowTest {
         CoalIsLent x = new CoalIsLent();
         Checks.due("no HUTS", x.drawn(99999, 999, 0), 0);
         Checks.due("no HUTS", x.drawn(0, 0, 1), 0);
+        Checks.due("one HUT", Checks.withHuts(0, 10000).drawn(0, 10, 1), 100 - 5 * 10 - 5 * 2);
         Checks.due("seed -1", x.drawn(-1, 0, 0), -2);
         Checks.due("seed 100000", x.drawn(100000, 0, 0), -2);
         Checks.due("snow -1", x.drawn(0, -1, 0), -2);
