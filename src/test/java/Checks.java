@@ -14,6 +14,19 @@ final class Checks {
         }
     }
 
+    static void dueText(String what, String got, String want) {
+        asked++;
+        if (!got.equals(want)) {
+            wrong++;
+            System.out.println(what + " is " + got + ", due is " + want);
+        }
+    }
+
+    /** Numbers just outside of what is taken, and as far outside as can be. */
+    static int[] outside(int least, int most) {
+        return new int[] {least - 1, most + 1, Integer.MIN_VALUE, Integer.MAX_VALUE};
+    }
+
     /** Prints how many answers were as due, and ends with exit code 1 if any was not. */
     static void finish() {
         System.out.println(asked + " answers, " + wrong + " not as due");
@@ -70,10 +83,6 @@ final class Checks {
     }
 
     static void same(String what, String before, CoalIsLent x) {
-        asked++;
-        if (!before.equals(all(x))) {
-            wrong++;
-            System.out.println(what + " changed something: " + before + " became " + all(x));
-        }
+        dueText("all behind " + what, all(x), before);
     }
 }
