@@ -340,6 +340,13 @@ final class BoundsTest {
         CoalIsLent y = Worlds.calm(0, 0, 0, 0);
         Checks.due("all are out: the first", y.worst(40, 0), 0);
         Checks.due("HEAT 0", y.worst(40, 1), 0);
+        // both 0, no less: its COAL of 10 grows by 1 in two NIGHTS, and is REPAID by the 60 that come to it ahead
+        CoalIsLent w = Checks.underLaw(Checks.withHuts(0, 10000, 0, 10009, 0, 0), "heat = 0 and wood = 0", "0", "0");
+        w.lend(12, 6001);
+        w.lend(1, 1001);
+        w.put(0, 0, 50);
+        Checks.due("it has neither", w.worst(2, 0), 1);
+        Checks.due("HEAT of the others", w.worst(2, 1), 50 + 12);
         // neither WOOD: what it burns then would repay
         CoalIsLent z = Checks.underLaw(Checks.withHuts(0, 5000, 0, 5), "0", "0", "50");
         z.lend(1, 4001);

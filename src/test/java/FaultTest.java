@@ -20,6 +20,7 @@ final class FaultTest {
         theFirstIsTold();
         keysInTheirOrder();
         leftoversOfAnEarlierTape();
+        leftoversOfAnEarlierText();
         Checks.finish();
     }
 
@@ -278,6 +279,19 @@ final class FaultTest {
             CoalIsLent x = new CoalIsLent();
             Checks.textOf(x, a[0]);
             Checks.due(a[1] + " behind " + a[0], Math.min(Checks.textOf(x, a[1]), 1), Integer.parseInt(a[2]));
+        }
+    }
+
+    /** What a longer TEXT came to is nothing to a shorter one behind it, nor to one behind a FAULT. */
+    private static void leftoversOfAnEarlierText() {
+        for (String longer : new String[] {"grows 1;cools 1;burns -1;", "grows 1;cools 1;burns not 1;",
+            "grows 1;cools 1;burns - - 1 $", "grows 1;cools 1;burns 1 + 1;", "grows - - - - - 1;cools 1 + 1;burns 1 + 1;"}) {
+            CoalIsLent x = Checks.withHuts(0, 0);
+            Checks.textOf(x, longer);
+            Checks.underLaw(x, "7", "6", "5");
+            for (int part = 0; part < 3; part++) Checks.due("behind " + longer, x.asks(part, 0, 0), 7 - part);
+            Checks.textOf(x, "grows 1 + 2;cools - 1 + 3 ) ;");
+            for (int part = 0; part < 3; part++) Checks.due("behind a FAULT", x.asks(part, 0, 0), 7 - part);
         }
     }
 }

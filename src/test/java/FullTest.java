@@ -10,6 +10,7 @@ final class FullTest {
         sixHuts7();
         sixHutsOfAll();
         sixHutsInARow();
+        sixToAsk21();
         tenLoans10();
         tenHotLoans();
         tenLoansGoOneByOne();
@@ -80,11 +81,26 @@ final class FullTest {
         CoalIsLent y = Worlds.calm(0, 10000, 0, 10000, 0, 10000, 0, 10000, 0, 10000, 0, 10000);
         for (int h = 0; h < 5; h++) y.lend(10 * h + h + 1, 109);
         for (int h = 0; h < 6; h++) Checks.due("source(" + h + "), told the other way", y.source(h), (1 << h) - 1);
+        y.lend(50, 109);
+        for (int h = 0; h < 6; h++) Checks.due("source(" + h + ") in a ring, told the other way", y.source(h), 63);
+        Checks.due("a ring of six, told the other way", y.rings(0), 63);
         // nets: -5, then 5 of 1 each
         CoalIsLent z = Worlds.calm(0, 0, 0, 100, 0, 100, 0, 100, 0, 100, 0, 100);
         for (int h = 1; h < 6; h++) z.lend(10 * h, 109);
         Checks.due("five payments", z.settle(0), 5);
         Checks.due("together", z.settle(1), 5);
+    }
+
+    private static void sixToAsk21() {
+        CoalIsLent x = Worlds.calm(0, 10000, 0, 10000, 0, 10000, 0, 10000, 0, 10000, 0, 10000);
+        for (int h = 0; h < 6; h++) {
+            Checks.due("of like ones the first", x.ask(h, 101, 0), h == 0 ? 1 : 0);
+            Checks.due("HEAT of all", x.ask(h, 139, 1), 600);
+            Checks.due("nobody has so much", x.ask(h, 10101, 0), -1);
+        }
+        x.put(5, 0, 101);
+        Checks.due("but the last", x.ask(0, 10101, 0), 5);
+        Checks.due("who can't ask itself", x.ask(5, 10101, 0), -1);
     }
 
     private static CoalIsLent tenLoans() {

@@ -142,6 +142,10 @@ final class StopsTest {
         // by snow, five times over
         int[][] all = {{0, 50}, {9, 5}, {10, 0}, {11, 0}, {999, 0}};
         for (int[] a : all) Checks.due("snow " + a[0], Worlds.calm(0, 5000).drawn(7, a[0], 1), a[1]);
+        // it stops ahead of the NIGHT: what burns 7 more than there is HEAT, burns 7
+        CoalIsLent x = Checks.underLaw(Checks.withHuts(0, 599), "0", "0", "heat + 7");
+        Checks.due("snow on a fire", x.drawn(0, 999, 1), 7);
+        Checks.due("snow by 1 more than there is HEAT, at first", x.drawn(0, 6, 1), 37);
     }
 
     private static void coldGoesTo0() {
